@@ -58,6 +58,21 @@ public final class FuzzTest {
                 () -> x.line(block, kind, d, p, q), () -> r.line(block, kind, d, p, q));
     }
 
+    /** What was told before, for another VARIABLE or in another BLOCK: so that there are VALUES that are the same. */
+    private static boolean tellTwin(int object, PhiHall x, Reference r, int blocks) {
+        int from = below(blocks);
+        int block = below(3) == 0 ? from : below(blocks);
+        int count = r.blocks.get(from).lines.size();
+        if (count == 0) return tellLine(object, x, r, blocks);
+        Reference.Line l = r.blocks.get(from).lines.get(below(count));
+        boolean isCrossed = l.kind >= 1 && l.kind <= 5 && below(3) == 0;
+        int d = l.kind >= 7 || below(2) == 0 ? l.d : below(6);
+        int p = isCrossed ? l.q : l.p;
+        int q = isCrossed ? l.p : l.q;
+        return same(object, "line(" + block + ", " + l.kind + ", " + d + ", " + p + ", " + q + ")",
+                () -> x.line(block, l.kind, d, p, q), () -> r.line(block, l.kind, d, p, q));
+    }
+
     private static boolean tellEnd(int object, PhiHall x, Reference r, int blocks, int block) {
         int kind = below(40) == 0 ? pick(-1, 3) : pick(0, 1, 1, 2, 2, 2, 2);
         boolean wild = below(40) == 0;
@@ -114,12 +129,27 @@ public final class FuzzTest {
         }
     }
 
+    /** VARIABLES that are MANY for the pass 1, which would take most of a FORM else. */
+    private static boolean tellUnknown(int object, PhiHall x, Reference r) {
+        boolean fine = true;
+        for (int d = 2; d < 6; d++) {
+            int variable = d;
+            int kind = pick(0, 1, 2, 6);
+            int p = 100 + below(2);
+            int q = kind == 0 || kind == 6 ? 0 : pick(100, 101, 1, 1);
+            fine &= same(object, "line(0, " + kind + ", " + d + ", " + p + ", " + q + ")",
+                    () -> x.line(0, kind, variable, p, q), () -> r.line(0, kind, variable, p, q));
+        }
+        return fine;
+    }
+
     private static boolean tellProgram(int object, PhiHall x, Reference r) {
         int blocks = 1 + below(10);
         boolean fine = true;
         for (int k = 1; k < blocks; k++) fine &= same(object, "block()", x::block, r::block);
+        if (below(2) == 0) fine &= tellUnknown(object, x, r);
         int lines = below(5 * blocks + 1);
-        for (int k = 0; k < lines; k++) fine &= tellLine(object, x, r, blocks);
+        for (int k = 0; k < lines; k++) fine &= below(4) == 0 ? tellTwin(object, x, r, blocks) : tellLine(object, x, r, blocks);
         for (int k = 0; k < blocks; k++) fine &= tellEnd(object, x, r, blocks, k);
         return fine;
     }

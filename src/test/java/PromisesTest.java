@@ -144,6 +144,10 @@ public final class PromisesTest {
         C.is("line again", x.line(1, 8, 0, 3, 0), 1);
         C.is("cut(1)", x.cut(1), 1);
         C.is("cut(1)", x.cut(1), 0);
+        print(x, 1, V4);
+        C.is("WANTED with the LINE", x.ofBlock(0, 5), 0b010000);
+        x.cut(1);
+        C.is("WANTED without it", x.ofBlock(0, 5), 0);
     }
 
     private static void end() {
@@ -334,8 +338,23 @@ public final class PromisesTest {
         y.form();
         C.is("pass(1) of begun ones", y.pass(1), 0);
         C.is("VALUE 2 is 0", y.argument(6, 0), NONE);
+        C.is("that number", y.number(6, 0), 0);
         C.is("VALUE 0 is MANY", y.argument(7, 0), 0);
         C.is("VALUE 5 is 0 at the END", y.ofPlace(0, 6), NONE);
+
+        PhiHall w = withBlocks(3);
+        load(w, 0, 2, 0);
+        w.line(0, 1, 3, V2, 1);
+        w.line(0, 3, 4, V1, 0);
+        w.line(0, 5, 5, V5, 1);
+        branch(w, 0, V5, 1, 2);
+        give(w, 1, V3);
+        w.form();
+        C.is("uses of the LESS", w.ofValue(9, 4), 1);
+        C.is("pass(1): the LESS and BLOCK 2; a LOAD is MANY, and so is what is made of MANY", w.pass(1), 2);
+        C.is("left in 0", w.ofPlace(0, 1), 3);
+        C.is("EDGES to 1", w.ofPlace(1, 5), 1);
+        C.is("its RETURN", w.ofPlace(1, 6), 7);
 
         PhiHall z = new PhiHall();
         put(z, 0, 2, -64);
@@ -380,8 +399,8 @@ public final class PromisesTest {
         branch(y, 3, V2, 4, 3);
         give(y, 4, V2);
         y.form();
-        int went = y.wouldGo(1);
-        C.is("pass(1) with a way that is not taken", y.pass(1), went);
+        C.is("pass(1): BLOCK 2, its PRINT, the PHIS of 3 and 4", y.pass(1), 4);
+        C.is("the PRINT is GONE", y.ofValue(6, 1), NONE);
         C.is("BLOCK 2 is GONE", y.ofPlace(2, 0), 0);
         C.is("END of 3 is a JUMP", y.ofPlace(3, 2), 1);
         C.is("EDGES to 4", y.ofPlace(4, 5), 1);
@@ -401,6 +420,26 @@ public final class PromisesTest {
         z.runForm(0, 0);
         C.is("returned", z.ofRun(1), 2);
         C.is("its COST", z.ofRun(3), 1);
+
+        PhiHall w = withBlocks(5);
+        branch(w, 0, 0, 1, 2);
+        put(w, 1, 2, 9);
+        jump(w, 1, 4);
+        w.line(2, 1, 2, V0, 1);
+        branch(w, 2, V1, 3, 4);
+        w.line(3, 1, 2, V1, 1);
+        jump(w, 3, 4);
+        give(w, 4, V2);
+        w.form();
+        C.is("first ARGUMENT of the PHI", w.number(8, 0), 9);
+        C.is("pass(1): BLOCK 1", w.pass(1), 1);
+        C.is("first EDGE then", w.edge(4, 0), 2);
+        C.is("second EDGE then", w.edge(4, 1), 3);
+        C.is("first ARGUMENT then", w.argument(8, 0), 6);
+        C.is("its number", w.number(8, 0), 0);
+        C.is("second ARGUMENT then", w.argument(8, 1), 7);
+        C.is("ARGUMENTS then", w.ofValue(8, 3), 2);
+        C.is("no VALUE at the END that is a JUMP", w.ofPlace(0, 6), NONE);
     }
 
     private static void numbersOfReckonings() {
@@ -459,6 +498,19 @@ public final class PromisesTest {
         w.pass(2);
         C.is("the first of these", w.argument(9, 0), 6);
         C.is("the first of these", w.argument(9, 1), 6);
+
+        PhiHall u = new PhiHall();
+        u.line(0, 1, 2, V0, 5);
+        u.line(0, 1, 2, 5, V0);
+        u.line(0, 1, 2, V0, 6);
+        u.line(0, 1, 2, 5, V1);
+        u.line(0, 1, 2, V0, V0);
+        u.line(0, 1, 2, V5, 5);
+        u.line(0, 2, 2, V0, 5);
+        u.line(0, 1, 2, 0, 5);
+        u.form();
+        C.is("pass(2): one ADD in the other order", u.pass(2), 1);
+        C.is("it", u.ofValue(7, 1), NONE);
     }
 
     private static void numbersOfPhis() {
@@ -481,6 +533,34 @@ public final class PromisesTest {
         C.is("printed v3", x.argument(11, 0), 7);
         C.is("printed v4 is v3", x.argument(12, 0), 7);
         C.is("printed v5", x.argument(13, 0), 9);
+
+        PhiHall z = diamond();
+        z.line(1, 1, 2, V0, 1);
+        put(z, 1, 3, V2);
+        put(z, 1, 4, V2);
+        put(z, 1, 5, V2);
+        put(z, 2, 5, 1);
+        put(z, 0, 4, V3);
+        print(z, 3, V3);
+        print(z, 3, V4);
+        print(z, 3, V5);
+        z.form();
+        C.is("pass(2): the PHI of v4 as the first one of its BLOCK", z.pass(2), 1);
+        C.is("printed v4 is v3", z.argument(11, 0), z.argument(10, 0));
+
+        PhiHall w = withBlocks(4);
+        jump(w, 0, 3);
+        put(w, 3, 2, 4);
+        branch(w, 3, V0, 1, 2);
+        print(w, 1, V2);
+        branch(w, 1, V1, 1, 2);
+        put(w, 2, 2, 4);
+        branch(w, 2, V1, 1, 3);
+        w.form();
+        C.is("PHI of 1: itself, 4, 4", w.number(6, 1) * 10 + w.number(6, 2), 44);
+        C.is("itself", w.argument(6, 0), 6);
+        C.is("pass(2): it is 4", w.pass(2), 1);
+        C.is("the PRINT", w.number(7, 0), 4);
 
         PhiHall y = withBlocks(4);
         put(y, 0, 2, V1);
@@ -587,6 +667,23 @@ public final class PromisesTest {
         branch(w, 1, V0, 1, 1);
         w.form();
         C.is("pass(4): three EDGES", w.pass(4), 0);
+
+        PhiHall u = withBlocks(4);
+        jump(u, 0, 1);
+        u.line(1, 1, 2, V0, V1);
+        branch(u, 1, V2, 2, 3);
+        give(u, 2, V0);
+        give(u, 3, 8);
+        u.form();
+        C.is("pass(4): 1", u.pass(4), 1);
+        C.is("KIND of the END of 1 at 0", u.ofPlace(0, 2), 2);
+        C.is("VALUE of the END of 1 at 0", u.ofPlace(0, 6), 6);
+        C.is("uses of it", u.ofValue(6, 4), 1);
+        C.is("to 2", u.ofPlace(0, 3), 2);
+        C.is("or to 3", u.ofPlace(0, 4), 3);
+        C.is("EDGE to 3", u.edge(3, 0), 0);
+        C.is("VALUES in 0", u.many(5), 1);
+        C.is("pass(3): the END needs it", u.pass(3), 0);
     }
 
     private static void ofPlace() {
@@ -1027,6 +1124,37 @@ public final class PromisesTest {
         C.is("untilStill() with a DEAD one in pass 3", z.untilStill(), 7);
         y.pass(1);
         C.is("untilStill() behind that", y.untilStill(), 4);
+        C.is("untilStill() of what is not still behind 40", ladder().untilStill(), 40);
+    }
+
+    /**
+     * The pass 2 visits the BLOCKS against the ways of the runs: each time just one more PHI is
+     * found to be the same VALUE, first the eight of v2, then those of v3.
+     */
+    private static PhiHall ladder() {
+        PhiHall x = withBlocks(10);
+        x.line(0, 1, 2, V0, 1);
+        x.line(0, 1, 3, V2, 1);
+        branch(x, 0, V1, 9, 8);
+        x.line(9, 1, 2, V0, 1);
+        for (int block = 9; block > 2; block--) {
+            branch(x, block, V1, block - 1, block - 2);
+        }
+        branch(x, 2, V1, 1, 1);
+        print(x, 1, V3);
+        x.line(1, 1, 3, V2, 1);
+        jump(x, 1, 9);
+        x.form();
+        for (int round = 0; round < 8; round++) {
+            C.is("pass(2) of the ladder, " + round, x.pass(2), 1);
+        }
+        C.is("pass(2) of the ladder: the last PHI of v2, the ADD of 1, the PHI of 9", x.pass(2), 3);
+        for (int round = 0; round < 8; round++) {
+            C.is("pass(2) of the ladder, the PHIS of v3, " + round, x.pass(2), 1);
+        }
+        C.is("pass(2) of the ladder at last", x.pass(2), 0);
+        x.form();
+        return x;
     }
 
     private static void isAlike() {
@@ -1044,6 +1172,12 @@ public final class PromisesTest {
         long before = x.digest();
         C.holds("isAlike", x.isAlike(0, 0));
         C.is("digest", x.digest(), before);
+        put(x, 0, 2, 1);
+        x.line(0, 2, 2, V2, V1);
+        C.holds("the first PRINTED is another one", !x.isAlike(0, -99));
+        C.holds("the same", x.isAlike(0, 1));
+        x.cut(0);
+        x.cut(0);
         x.cut(2);
         C.holds("one fewer PRINTED", !x.isAlike(0, 0));
         print(x, 2, 5);
@@ -1057,6 +1191,9 @@ public final class PromisesTest {
         C.holds("a CELL is another one", !x.isAlike(1, 0));
         C.holds("a CELL is the same", x.isAlike(0, 0));
         x.cut(2);
+        store(x, 2, 0, V0);
+        C.holds("the CELL 0 is another one", !x.isAlike(1, 0));
+        x.cut(2);
         x.line(2, 4, 2, 1, V1);
         C.holds("it ends by a TRAP", !x.isAlike(0, 0));
         C.holds("it ends by no TRAP: COST aside", x.isAlike(0, 1));
@@ -1067,6 +1204,17 @@ public final class PromisesTest {
         x.line(2, 4, 2, V1, 0);
         C.holds("both by a TRAP", x.isAlike(0, 0));
         C.holds("just one by a TRAP", !x.isAlike(0, 1));
+
+        PhiHall z = new PhiHall();
+        print(z, 0, V0);
+        print(z, 0, 2);
+        z.form();
+        z.cut(0);
+        z.cut(0);
+        print(z, 0, 1);
+        print(z, 0, 2);
+        C.holds("just the first PRINTED is another one", !z.isAlike(0, 0));
+        C.holds("the first PRINTED is the same", z.isAlike(1, 0));
 
         PhiHall y = withBlocks(3);
         jump(y, 0, 1);
@@ -1136,6 +1284,23 @@ public final class PromisesTest {
             C.is("digest behind the pass " + pass, x.digest(), digestOf(x));
         }
         C.is("digest twice", x.digest(), x.digest());
+
+        PhiHall y = withBlocks(4);
+        y.line(0, 1, 2, V0, 1);
+        y.line(0, 1, 3, V2, 1);
+        y.line(0, 1, 4, V3, 1);
+        print(y, 0, V4);
+        jump(y, 0, 1);
+        jump(y, 1, 2);
+        y.line(2, 1, 4, V3, 1);
+        y.line(2, 1, 3, V2, 1);
+        y.line(2, 1, 2, V0, 1);
+        branch(y, 2, V1, 1, 3);
+        give(y, 3, V4);
+        y.form();
+        C.holds("a third round would make it cheaper", y.wouldCost(3, 3, -2) < y.wouldCost(2, 3, -2));
+        C.holds("a second round would, too", y.wouldCost(2, 3, -2) < y.wouldCost(1, 3, -2));
+        C.is("digest of two rounds", y.digest(), digestOf(y));
     }
 
     public static void main(String[] args) {
