@@ -1,3 +1,5 @@
+import java.util.List;
+
 /** What the tests of the project share: counts what is wrong, and prints it. */
 final class Check {
     private final String name;
@@ -44,6 +46,19 @@ final class Check {
             System.out.println(name + ", " + part + ": " + call + " threw " + got + ", due is " + due.getName());
         }
         is(call + " leaves the digest", x.digest(), before);
+    }
+
+    /** Two pictures of objects in the same state. */
+    void same(String what, List<Long> got, List<Long> want) {
+        done++;
+        int k = 0;
+        while (k < Math.min(got.size(), want.size()) && got.get(k).equals(want.get(k))) {
+            k++;
+        }
+        if (k < got.size() || k < want.size()) {
+            wrong++;
+            System.out.println(name + ", " + part + ": " + what + ": another answer " + k + " of " + want.size());
+        }
     }
 
     void finish() {

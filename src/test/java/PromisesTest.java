@@ -1,77 +1,10 @@
 /** Each promise of the document: ordinary inputs, the edges that it names, and wrong inputs. */
-public final class PromisesTest {
+public final class PromisesTest extends Programs {
     private static final Class<IndexOutOfBoundsException> OUT = IndexOutOfBoundsException.class;
     private static final Class<IllegalArgumentException> WRONG = IllegalArgumentException.class;
     private static final Class<IllegalStateException> STATE = IllegalStateException.class;
-    private static final int NONE = -1;
-    private static final int V0 = 100;
-    private static final int V1 = 101;
-    private static final int V2 = 102;
-    private static final int V3 = 103;
-    private static final int V4 = 104;
-    private static final int V5 = 105;
 
     private static final Check C = new Check("PromisesTest");
-
-    private static PhiHall withBlocks(int count) {
-        PhiHall x = new PhiHall();
-        for (int k = 1; k < count; k++) {
-            x.block();
-        }
-        return x;
-    }
-
-    private static void put(PhiHall x, int block, int d, int p) {
-        x.line(block, 0, d, p, 0);
-    }
-
-    private static void load(PhiHall x, int block, int d, int p) {
-        x.line(block, 6, d, p, 0);
-    }
-
-    private static void store(PhiHall x, int block, int p, int q) {
-        x.line(block, 7, 0, p, q);
-    }
-
-    private static void print(PhiHall x, int block, int p) {
-        x.line(block, 8, 0, p, 0);
-    }
-
-    private static void jump(PhiHall x, int block, int to) {
-        x.end(block, 1, 0, to, 0);
-    }
-
-    private static void branch(PhiHall x, int block, int p, int to, int other) {
-        x.end(block, 2, p, to, other);
-    }
-
-    private static void give(PhiHall x, int block, int p) {
-        x.end(block, 0, p, 0, 0);
-    }
-
-    /** Sums v0, v0 - 1, .. 1 into v2, prints and returns that. */
-    private static PhiHall loop() {
-        PhiHall x = withBlocks(4);
-        put(x, 0, 2, 0);
-        jump(x, 0, 1);
-        x.line(1, 5, 3, 0, V0);
-        branch(x, 1, V3, 2, 3);
-        x.line(2, 1, 2, V2, V0);
-        x.line(2, 2, 0, V0, 1);
-        jump(x, 2, 1);
-        print(x, 3, V2);
-        give(x, 3, V2);
-        return x;
-    }
-
-    /** BLOCK 0 goes to 1 and 2, both to 3; lines are for the caller. */
-    private static PhiHall diamond() {
-        PhiHall x = withBlocks(4);
-        branch(x, 0, V0, 1, 2);
-        jump(x, 1, 3);
-        jump(x, 2, 3);
-        return x;
-    }
 
     private static void newObject() {
         C.part("promise 1");
@@ -1124,27 +1057,11 @@ public final class PromisesTest {
         C.is("untilStill() with a DEAD one in pass 3", z.untilStill(), 7);
         y.pass(1);
         C.is("untilStill() behind that", y.untilStill(), 4);
-        C.is("untilStill() of what is not still behind 40", ladder().untilStill(), 40);
+        C.is("untilStill() of what is not still behind 40", climbed().untilStill(), 40);
     }
 
-    /**
-     * The pass 2 visits the BLOCKS against the ways of the runs: each time just one more PHI is
-     * found to be the same VALUE, first the eight of v2, then those of v3.
-     */
-    private static PhiHall ladder() {
-        PhiHall x = withBlocks(10);
-        x.line(0, 1, 2, V0, 1);
-        x.line(0, 1, 3, V2, 1);
-        branch(x, 0, V1, 9, 8);
-        x.line(9, 1, 2, V0, 1);
-        for (int block = 9; block > 2; block--) {
-            branch(x, block, V1, block - 1, block - 2);
-        }
-        branch(x, 2, V1, 1, 1);
-        print(x, 1, V3);
-        x.line(1, 1, 3, V2, 1);
-        jump(x, 1, 9);
-        x.form();
+    private static PhiHall climbed() {
+        PhiHall x = ladder(10);
         for (int round = 0; round < 8; round++) {
             C.is("pass(2) of the ladder, " + round, x.pass(2), 1);
         }
