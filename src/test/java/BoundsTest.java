@@ -1,3 +1,4 @@
+import java.util.List;
 import java.util.function.Consumer;
 
 /**
@@ -695,6 +696,44 @@ public final class BoundsTest extends Programs {
         }
     }
 
+    private static void madeAnew() {
+        C.part("Promise 7, 'Makes the FORM of what is told, in place of that before', of as much as there can be");
+        PhiHall x = full();
+        x.form();
+        List<Long> first = Picture.of(x);
+        for (int k = 1; k <= 3; k++) {
+            x.pass(k);
+            C.is("form() again", x.form(), 140);
+            C.same("each answer", Picture.of(x), first);
+        }
+    }
+
+    /** Each of two DOMINATES the other one, once. */
+    private static void toldAnew() {
+        C.part("'A DOMINATES B, if each way from the BLOCK 0 to B goes through A', told anew");
+        PhiHall x = withBlocks(3);
+        x.line(0, 1, 2, V0, 1);
+        x.line(1, 1, 3, V0, 1);
+        x.line(2, 1, 4, V0, 1);
+        print(x, 2, V4);
+        jump(x, 0, 1);
+        jump(x, 1, 2);
+        x.form();
+        x.pass(2);
+        C.is("1 DOMINATES", x.ofBlock(1, 3), 0b110);
+        C.is("2 DOMINATES", x.ofBlock(2, 3), 0b100);
+        jump(x, 0, 2);
+        jump(x, 2, 1);
+        give(x, 1, V4);
+        C.is("1 DOMINATES", x.ofBlock(1, 3), 0b010);
+        C.is("2 DOMINATES", x.ofBlock(2, 3), 0b110);
+        x.form();
+        C.is("RETURN of 1: the ADD of 2", x.ofPlace(1, 6), 8);
+        C.is("pass(2): the ADDS of 1 and 2", x.pass(2), 2);
+        C.is("RETURN of 1: the ADD of 0", x.ofPlace(1, 6), 6);
+        C.is("PRINT of 2: the ADD of 0", x.argument(9, 0), 6);
+    }
+
     private static void edgesInOrder() {
         C.part("'EDGES come from REACHED BLOCKS alone, and to a BLOCK are in the order of the BLOCKS from which they come'");
         PhiHall x = withBlocks(10);
@@ -849,6 +888,65 @@ public final class BoundsTest extends Programs {
         }
     }
 
+    private static void edgesThatAreNotThere() {
+        C.part("'and so are EDGES that are not there any more (and the ARGUMENTS of PHIS for them)'");
+        for (int p = -1; p <= 1; p++) {
+            PhiHall x = withBlocks(4);
+            put(x, 0, 2, 5);
+            branch(x, 0, p, p > 0 ? 1 : 3, p > 0 ? 3 : 1);
+            put(x, 1, 2, 6);
+            branch(x, 1, V0, 3, 2);
+            put(x, 2, 2, 7);
+            jump(x, 2, 3);
+            print(x, 3, V2);
+            x.form();
+            C.is("EDGES to 3", x.ofPlace(3, 5), 3);
+            C.is("first ARGUMENT of its PHI", x.number(6, 0), 5);
+            C.is("pass(1), IF of " + p, x.pass(1), 0);
+            C.is("EDGES to 3 then", x.ofPlace(3, 5), 2);
+            C.is("the first one", x.edge(3, 0), 1);
+            C.is("the second one", x.edge(3, 1), 2);
+            C.is("ARGUMENTS of its PHI", x.ofValue(6, 3), 2);
+            C.is("the first one", x.number(6, 0), 6);
+            C.is("the second one", x.number(6, 1), 7);
+            C.is("END of 0", x.ofPlace(0, 3), 1);
+            C.is("EDGES", x.many(8), 4);
+            x.runForm(0, 0);
+            C.is("PRINTED", x.printed(0), 7);
+        }
+    }
+
+    private static void endsOfWhatIsGone() {
+        C.part("'BLOCKS that were not come to are GONE, with all their VALUES', and what their ENDS had as ARGUMENTS");
+        PhiHall x = withBlocks(4);
+        x.line(0, 1, 2, V0, 1);
+        branch(x, 0, 1, 1, 2);
+        branch(x, 2, V2, 3, 1);
+        give(x, 3, V2);
+        x.form();
+        C.is("uses of the ADD", x.ofValue(6, 4), 2);
+        C.is("pass(1): BLOCKS 2 and 3", x.pass(1), 2);
+        C.is("uses of the ADD then", x.ofValue(6, 4), 0);
+        C.is("pass(3): it is NEEDED by none", x.pass(3), 1);
+    }
+
+    private static void risesAgainstTheNumbers() {
+        C.part("'each is UNKNOWN as long as nothing says otherwise, then a number, then MANY', against the numbers of BLOCKS");
+        PhiHall x = withBlocks(5);
+        jump(x, 0, 3);
+        branch(x, 3, V0, 2, 4);
+        x.line(2, 1, 3, V2, 1);
+        jump(x, 2, 1);
+        x.line(1, 1, 2, V3, 0);
+        print(x, 1, V2);
+        jump(x, 1, 3);
+        x.form();
+        C.is("pass(1): all is MANY", x.pass(1), 0);
+        C.is("the PRINT", x.argument(7, 0), 6);
+        C.is("the ADD of 1", x.argument(6, 0), 8);
+        C.is("the ADD of 2: the PHI", x.argument(8, 0), 9);
+    }
+
     private static void phiOfKnown() {
         C.part("'the number, if these (UNKNOWN ones aside) are all the same number; otherwise MANY'");
         for (int other = 6; other <= 8; other++) {
@@ -980,6 +1078,23 @@ public final class BoundsTest extends Programs {
         C.is("pass(2) of other KINDS or ARGUMENTS", y.pass(2), 0);
     }
 
+    private static void inEitherOrderOfNumbers() {
+        C.part("'(of ADD and MUL in either order)', of a number and a VALUE, or of two numbers");
+        for (int kind = 1; kind <= 5; kind++) {
+            boolean isEither = kind == 1 || kind == 3;
+            int[][] pairs = {{5, V0, V0, 5, 1}, {V0, 5, 5, V0, 1}, {5, 6, 6, 5, 1}, {5, V0, V0, 6, 0}, {V0, 5, 6, V0, 0}, {5, V0, 5, V1, 0},
+                {5, V0, V1, 5, 0}, {5, 6, 6, 7, 0}, {5, 6, 7, 5, 0}, {0, V0, V0, V0, 0}};
+            for (int[] p : pairs) {
+                PhiHall x = new PhiHall();
+                x.line(0, kind, 2, p[0], p[1]);
+                x.line(0, kind, 3, p[2], p[3]);
+                store(x, 0, 9, 8);
+                x.form();
+                C.is("pass(2) of kind " + kind + " of " + p[0] + ", " + p[1] + " and " + p[2] + ", " + p[3], x.pass(2), isEither ? p[4] : 0);
+            }
+        }
+    }
+
     private static void dominatedOnes() {
         C.part("'as one that comes ahead in the same BLOCK, or is in one that DOMINATES this'");
         PhiHall x = diamond();
@@ -1084,6 +1199,38 @@ public final class BoundsTest extends Programs {
         C.is("runForm", y.runForm(0, 0), 0);
         C.is("COST without JUMPS", y.ofRun(3), 9);
         C.is("ENDS", y.ofRun(4), 1);
+    }
+
+    private static void hasItsEnd() {
+        C.part("'A has the END of B', where A is not the BLOCK 0");
+        PhiHall x = withBlocks(6);
+        branch(x, 0, V0, 4, 2);
+        jump(x, 4, 3);
+        x.line(3, 1, 2, V0, V1);
+        give(x, 3, V2);
+        jump(x, 2, 1);
+        x.line(1, 2, 2, V0, V1);
+        branch(x, 1, V2, 5, 4);
+        give(x, 5, 55);
+        x.form();
+        C.is("pass(4): 1 behind 2, 3 behind 4", x.pass(4), 2);
+        int[][] want = {{1, 0, 2, 4, 2, 0, 0, 0}, {0, 0, 0, 0, 0, 0, 0, 0}, {1, 1, 2, 5, 4, 1, 6, 0}, {0, 0, 0, 0, 0, 0, 0, 0},
+            {1, 1, 0, NONE, NONE, 2, 7, 0}, {1, 0, 0, NONE, NONE, 1, NONE, 55}};
+        for (int block = 0; block < 6; block++) {
+            for (int what = 0; what <= 7; what++) {
+                C.is("ofPlace(" + block + ", " + what + ")", x.ofPlace(block, what), want[block][what]);
+            }
+        }
+        C.is("EDGES to 4, by the BLOCKS from which they came", x.edge(4, 0) * 10 + x.edge(4, 1), 2);
+        C.is("EDGE to 5", x.edge(5, 0), 2);
+        C.is("uses of the ADD", x.ofValue(7, 4), 1);
+        C.is("pass(3)", x.pass(3), 0);
+        x.runForm(7, 3);
+        C.is("RETURNED", x.ofRun(1), 10);
+        x.runForm(-7, 3);
+        C.is("RETURNED", x.ofRun(1), -4);
+        x.runForm(0, -3);
+        C.is("RETURNED", x.ofRun(1), 55);
     }
 
     private static void jumpToItself() {
@@ -1490,6 +1637,36 @@ public final class BoundsTest extends Programs {
         C.is("digest() without runs or a FORM", x.digest(), d);
     }
 
+    private static void digestOfItsInputs() {
+        C.part("Promise 26, 'wouldCost() of 0 and of 2 rounds with 3 and -2'");
+        for (int v = 0; v <= 1; v++) {
+            PhiHall x = new PhiHall();
+            x.line(0, 2, 2, 100 + v, v == 0 ? 3 : -2);
+            x.line(0, 4, 3, 1, V2);
+            store(x, 0, 1, V3);
+            x.form();
+            C.is("COST of a TRAP", x.wouldCost(0, 3, -2), 9);
+            C.is("COST else", x.wouldCost(0, 3 + 1 - v, -2 + v), 13);
+            C.is("digest()", x.digest(), folded(x));
+        }
+    }
+
+    private static long folded(PhiHall x) {
+        long d = 7605;
+        for (int what = 0; what <= 10; what++) d = d * 31 + x.many(what);
+        for (int what = 0; what <= 5; what++) d = d * 31 + x.ofBlock(0, what);
+        for (int what = 0; what <= 5; what++) d = d * 31 + x.ofRun(what);
+        for (int cell = 0; cell <= 7; cell++) d = d * 31 + x.cell(cell);
+        for (int what = 0; what <= 7; what++) d = d * 31 + x.ofPlace(0, what);
+        for (int k = 0; k < x.ofPlace(0, 1); k++) d = d * 31 + x.valueAt(0, k);
+        for (int value = 0; value < x.many(4); value++) {
+            for (int what = 0; what <= 4; what++) d = d * 31 + x.ofValue(value, what);
+            for (int k = 0; k < x.ofValue(value, 3); k++) d = (d * 31 + x.argument(value, k)) * 31 + x.number(value, k);
+        }
+        for (int pass = 1; pass <= 4; pass++) d = d * 31 + x.wouldGo(pass);
+        return (d * 31 + x.wouldCost(0, 3, -2)) * 31 + x.wouldCost(2, 3, -2);
+    }
+
     private static void fiveHundredTwelveCalls() {
         C.part("'An object is used for at most 512 calls'");
         PhiHall x = full();
@@ -1542,6 +1719,8 @@ public final class BoundsTest extends Programs {
         phiByOneThatWouldBe();
         valuesAreNumbered();
         fullForm();
+        madeAnew();
+        toldAnew();
         edgesInOrder();
         twoEdgesOfAnIf();
         thereAndReached();
@@ -1549,16 +1728,21 @@ public final class BoundsTest extends Programs {
         numberOrMany();
         beganWith();
         ifOfANumber();
+        edgesThatAreNotThere();
+        endsOfWhatIsGone();
+        risesAgainstTheNumbers();
         phiOfKnown();
         unknownGoesNowhere();
         storesAndPrintsStay();
         phiOfItself();
         twins();
         inEitherOrder();
+        inEitherOrderOfNumbers();
         dominatedOnes();
         needed();
         begunOnesStay();
         justOneEdge();
+        hasItsEnd();
         jumpToItself();
         newObject();
         cutLines();
@@ -1577,6 +1761,7 @@ public final class BoundsTest extends Programs {
         isAlikeAside();
         onlyTheLastPrinted();
         digestWraps();
+        digestOfItsInputs();
         fiveHundredTwelveCalls();
         C.finish();
     }
