@@ -144,11 +144,12 @@ public final class FuzzTest {
     }
 
     private static boolean tellProgram(int object, PhiHall x, Reference r) {
-        int blocks = 1 + below(10);
+        boolean isFull = object % 8 == 0;
+        int blocks = isFull ? 10 : 1 + below(10);
         boolean fine = true;
         for (int k = 1; k < blocks; k++) fine &= same(object, "block()", x::block, r::block);
         if (below(2) == 0) fine &= tellUnknown(object, x, r);
-        int lines = below(5 * blocks + 1);
+        int lines = isFull ? 120 : below(5 * blocks + 1);
         for (int k = 0; k < lines; k++) fine &= below(4) == 0 ? tellTwin(object, x, r, blocks) : tellLine(object, x, r, blocks);
         for (int k = 0; k < blocks; k++) fine &= tellEnd(object, x, r, blocks, k);
         return fine;
